@@ -295,6 +295,16 @@ public final class HeapLaw {
         return (members >> one & 1) != 0;
     }
 
+    /** The least SPARE name that is not one of some terms; NO if there is none. */
+    private static int spareBeside(int terms) {
+        for (int s = FIRST_SPARE; s <= LAST_TERM; s++) {
+            if (!has(terms, s)) {
+                return s;
+            }
+        }
+        return NO;
+    }
+
     /** PURE parts and PARTS in the order in which they came. */
     private static final class Formula {
         final int[] pures = new int[MOST_PURES];
@@ -391,17 +401,6 @@ public final class HeapLaw {
 
         boolean hasSpare() {
             return (terms() & SPARES) != 0;
-        }
-
-        /** The least SPARE name that is not in it; NO if there is none. */
-        int freeSpare() {
-            int found = terms();
-            for (int s = FIRST_SPARE; s <= LAST_TERM; s++) {
-                if (!has(found, s)) {
-                    return s;
-                }
-            }
-            return NO;
         }
 
         void rename(int from, int to) {
@@ -840,7 +839,7 @@ public final class HeapLaw {
 
         private static boolean makeLonger(Formula one, int row) {
             int code = one.parts[row];
-            int spare = one.freeSpare();
+            int spare = spareBeside(one.terms());
             if (spare == NO) {
                 return false;
             }
@@ -882,16 +881,17 @@ public final class HeapLaw {
             if (vacate(it) == NO) {
                 return false;
             }
-            int spare = it.freeSpare();
+            int spare = spareBeside(it.terms());
             return spare != NO && it.addPart(pack(CELL, x, spare));
         }
 
         /** Gives all places of x to a SPARE name: which; x if it has none; NO if none is free. */
         private int vacate(Formula it) {
-            if (!has(it.terms(), x)) {
+            int found = it.terms();
+            if (!has(found, x)) {
                 return x;
             }
-            int spare = it.freeSpare();
+            int spare = spareBeside(found);
             if (spare != NO) {
                 it.rename(x, spare);
             }

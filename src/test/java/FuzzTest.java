@@ -103,6 +103,16 @@ public final class FuzzTest {
             due("formula", law.formula(), plain.formula());
             int pures = chance.nextInt(4), parts = chance.nextInt(5);
             int f = plain.formulas.size() - 1;
+            // Only where few terms may be the same do the ends that lie inside of ROWS count.
+            int apart = chance.nextInt(2) * (4 + chance.nextInt(12));
+            for (int x = 1; x < Math.min(terms, 5); x++) {
+                for (int y = 0; y < x && apart > 0; y++) {
+                    if (chance.nextInt(apart) > 0) {
+                        due("pure", law.pure(f, 1, x, y), plain.pure(f, 1, x, y), f, 1, x, y);
+                        pures = 0;
+                    }
+                }
+            }
             for (int i = 0; i < pures; i++) {
                 int how = chance.nextInt(2), x = chance.nextInt(terms), y = chance.nextInt(terms);
                 due("pure", law.pure(f, how, x, y), plain.pure(f, how, x, y), f, how, x, y);

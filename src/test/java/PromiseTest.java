@@ -360,6 +360,13 @@ public final class PromiseTest {
         dueFits(full, "1~5 5~0 5!0", 1);
         dueFits(full, "1~0 5!6 6!7 5!7", 1);
         dueFits(full, "1~5 5>6 6~0 6!0 5!1 6=2", 0);
+        for (int a = 0; a <= 9; a++) {
+            HeapLaw one = new HeapLaw();
+            one.set(2, 4);
+            one.cell(4, a);
+            dueFits(one, "2>6", 1);
+            dueFits(one, "7>6 7=2", 1);
+        }
     }
 
     private static void run() {
@@ -569,6 +576,8 @@ public final class PromiseTest {
         dueNoStep(sixteen + " 1~0", 3, 1, 1, HeapLaw.SPENT);
         dueNoStep(sixteen.substring(4) + " 1~0", 3, 1, 1, HeapLaw.FAULT);
         dueNoStep(sixteen.substring(4) + " 1=0 1~0", 3, 1, 1, HeapLaw.FAULT);
+        // The empty one is SPENT on its way: the other one, which would do, is not made.
+        dueNoStep(sixteen.substring(4) + " 1~2 2~3 3>4", 3, 1, 1, HeapLaw.SPENT);
         // What no memory fits gives nothing, not even SPENT or FAULT.
         dueNoStep("5=5 6=6 7=7 1!1 1~0", 3, 1, 1, 0);
         dueNoStep("5=5 6=6 7=7 1!1", 3, 1, 1, 0);
@@ -663,6 +672,8 @@ public final class PromiseTest {
         due("differ", h.differ(make(h, "4!3 3!0"), any), 0);
         due("differ", h.differ(make(h, "4!3 3!0"), make(h, "4=0")), 1);
         dueMemory(h, -1, -1, -1, 0, 0, 1, 2);
+        due("a name in the other one alone", h.differ(any, make(h, "2=0")), 1);
+        dueMemory(h, -1, -1, -1, 0, 1, 0, 0);
         due("differ", h.differ(make(h, "1~0"), make(h, "1=0 1~0")), 1);
         dueMemory(h, -1, -1, 0, 3, 0, 0, 0);
         due("differ", h.differ(make(h, "1~2 1!2"), make(h, "1>2")), 1);
@@ -671,10 +682,10 @@ public final class PromiseTest {
         dueMemory(h, 2, 3, 1, 1, 2, 3, 0);
         due("no small one", h.differ(make(h, "1>2 2>3 3>4 4>0"), never), 0);
         dueMemory(h, 2, 3, 1, 1, 2, 3, 0);
-        due("count", h.count(1), 8);
+        due("count", h.count(1), 9);
         due("BAD", h.differ(0, 60), HeapLaw.BAD);
         due("BAD", h.differ(-1, 0), HeapLaw.BAD);
-        due("count", h.count(1), 8);
+        due("count", h.count(1), 9);
     }
 
     private static void differMany() {
