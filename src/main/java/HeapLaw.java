@@ -171,7 +171,7 @@ public final class HeapLaw {
     }
 
     public int run(int act, int x, int y, int a) {
-        if (!isAct(act) || !isName(x) || (needsY(act) && !isName(y))) {
+        if (!areNames(act, x, y)) {
             return BAD;
         }
         if (act == BECOME_NEW) {
@@ -200,7 +200,7 @@ public final class HeapLaw {
     }
 
     public int step(int f, int act, int x, int y) {
-        if (!isFormula(f) || !isAct(act) || !isName(x) || !isName(y)) {
+        if (!isFormula(f) || !areNames(act, x, y)) {
             return BAD;
         }
         stepper.start(formulas[f], act, x, y);
@@ -271,6 +271,11 @@ public final class HeapLaw {
 
     private static boolean needsY(int act) {
         return act == BECOME || act >= READ;
+    }
+
+    /** Whether there is such an act and x, y are names where they count in it. */
+    private static boolean areNames(int act, int x, int y) {
+        return isAct(act) && isName(x) && (!needsY(act) || isName(y));
     }
 
     // ---- a part packed into one int

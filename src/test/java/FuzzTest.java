@@ -504,9 +504,13 @@ public final class FuzzTest {
             return true;
         }
 
-        int run(int act, int x, int y, int a) {
+        static boolean noAct(int act, int x, int y) {
             boolean byY = act == 0 || act == 4 || act == 5 || act == 6 || act == 7;
-            if (act < 0 || act > 7 || x < 1 || x > 4 || byY && (y < 1 || y > 4) || act == 2 && (a < 0 || a > 9)) {
+            return act < 0 || act > 7 || x < 1 || x > 4 || byY && (y < 1 || y > 4);
+        }
+
+        int run(int act, int x, int y, int a) {
+            if (noAct(act, x, y) || act == 2 && (a < 0 || a > 9)) {
                 return BAD;
             }
             if (act == 0) {
@@ -688,7 +692,7 @@ public final class FuzzTest {
         }
 
         int step(int f, int act, int x, int y) {
-            if (no(f) || act < 0 || act > 7 || x < 1 || x > 4 || y < 1 || y > 4) {
+            if (no(f) || noAct(act, x, y)) {
                 return BAD;
             }
             List<Formula> made = new ArrayList<>();

@@ -27,6 +27,7 @@ public final class PromiseTest {
         stepSpent();
         stepFull();
         stepWrong();
+        stepWithoutY();
         differ();
         differMany();
         count();
@@ -640,10 +641,32 @@ public final class PromiseTest {
         for (int act = 0; act < 8; act++) {
             due("x", h.step(0, act, 0, 1), HeapLaw.BAD);
             due("x", h.step(0, act, 5, 1), HeapLaw.BAD);
-            due("y", h.step(0, act, 1, 0), HeapLaw.BAD);
-            due("y", h.step(0, act, 1, 5), HeapLaw.BAD);
+            due("x", h.step(0, act, -7, 1), HeapLaw.BAD);
+            if (act == 0 || act >= 4) {
+                due("y", h.step(0, act, 1, 0), HeapLaw.BAD);
+                due("y", h.step(0, act, 1, 5), HeapLaw.BAD);
+                due("y", h.step(0, act, 1, -1), HeapLaw.BAD);
+            }
         }
         due("count", h.count(0), 1);
+    }
+
+    /** In the acts 1, 2, 3 only x is a name: y may be any number, and changes nothing. */
+    private static void stepWithoutY() {
+        promise = "18 step, y that does not count";
+        int[] anyY = {0, 1, 2, 4, 5, 7, 8, -1, -7, 64, Integer.MAX_VALUE, Integer.MIN_VALUE};
+        for (int y : anyY) {
+            dueStep("", 1, 1, y, "1=0");
+            dueStep("", 2, 1, y, "1>5");
+            dueNoStep("", 3, 1, y, HeapLaw.FAULT);
+            dueStep("1!2 1>2 2~0", 1, 2, y, "1!5 2=0 1>5 5~0");
+            dueStep("1!2 1>2 2~0", 2, 1, y, "5!2 5>2 2~0 1>6");
+            dueStep("1!2 1>2 2~0", 3, 1, y, "1!2 2~0");
+            dueStep("1~2 2>0", 3, 1, y, "1=2", "1!2 5~2 2>0");
+            dueNoStep("5!6 6!7 1!0", 1, 1, y, HeapLaw.SPENT);
+            dueNoStep("1>2", 1, 0, y, HeapLaw.BAD);
+            dueNoStep("1>2", 3, 5, y, HeapLaw.BAD);
+        }
     }
 
     private static void dueMemory(HeapLaw h, int... want) {
