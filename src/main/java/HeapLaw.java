@@ -167,7 +167,7 @@ public final class HeapLaw {
             return BAD;
         }
         plan.lay(formulas[f]);
-        return memory.suits(plan, NIL, 0) ? 1 : 0;
+        return memory.isFitted(plan) ? 1 : 0;
     }
 
     public int run(int act, int x, int y, int a) {
@@ -205,7 +205,7 @@ public final class HeapLaw {
         }
         stepper.start(formulas[f], act, x, y);
         stepper.fillFrom(formulas, made);
-        int ended = stepper.goThrough(0);
+        int ended = stepper.goThroughAll();
         if (ended < 0) {
             return ended;
         }
@@ -542,11 +542,16 @@ public final class HeapLaw {
             }
         }
 
+        /** Whether the formula laid out FITS. */
+        boolean isFitted(Plan plan) {
+            return suits(plan, NIL, 0);
+        }
+
         /**
          * Whether the formula laid out FITS, from a term on, its parts of lesser terms having
          * taken some cells. Only a SPARE name in it has its values tried.
          */
-        boolean suits(Plan plan, int term, int taken) {
+        private boolean suits(Plan plan, int term, int taken) {
             if (term > LAST_TERM) {
                 return taken == present;
             }
@@ -628,7 +633,7 @@ public final class HeapLaw {
 
         private boolean findFrom(int name, int taken) {
             if (name > LAST_NAME) {
-                return taken == trial.present && !trial.suits(failing, NIL, 0);
+                return taken == trial.present && !trial.isFitted(failing);
             }
             // The value of a name that stands in neither makes no difference: 0 comes first.
             int most = has(fitting.terms | failing.terms, name) ? LAST_SMALL : 0;
@@ -790,8 +795,12 @@ public final class HeapLaw {
             filled = 0;
         }
 
-        /** Goes through the CASE of a depth and all that is opened in it: 0, SPENT or FAULT. */
-        int goThrough(int depth) {
+        /** Goes through the formula itself and all that is opened in it: 0, SPENT or FAULT. */
+        int goThroughAll() {
+            return goThrough(0);
+        }
+
+        private int goThrough(int depth) {
             Formula one = cases[depth];
             if (!sharing.isFit(one)) {
                 return 0;
