@@ -408,19 +408,13 @@ public final class HeapLaw {
             return (terms() & SPARES) != 0;
         }
 
-        void rename(int from, int to) {
-            for (int i = 0; i < pureCount; i++) {
-                pures[i] = renamed(pures[i], from, to);
+        /** All places of one term in some parts become another one's. */
+        static void rename(int[] codes, int count, int from, int to) {
+            for (int i = 0; i < count && i < codes.length; i++) {
+                int x = xOf(codes[i]);
+                int y = yOf(codes[i]);
+                codes[i] = pack(kindOf(codes[i]), x == from ? to : x, y == from ? to : y);
             }
-            for (int i = 0; i < partCount; i++) {
-                parts[i] = renamed(parts[i], from, to);
-            }
-        }
-
-        private static int renamed(int code, int from, int to) {
-            int x = xOf(code) == from ? to : xOf(code);
-            int y = yOf(code) == from ? to : yOf(code);
-            return pack(kindOf(code), x, y);
         }
 
         /** The set of the terms that are KNOWN to be the same as t. */
@@ -907,7 +901,8 @@ public final class HeapLaw {
             }
             int spare = spareBeside(found);
             if (spare != NO) {
-                it.rename(x, spare);
+                Formula.rename(it.pures, it.pureCount, x, spare);
+                Formula.rename(it.parts, it.partCount, x, spare);
             }
             return spare;
         }

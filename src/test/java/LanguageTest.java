@@ -1,3 +1,5 @@
+import java.io.PrintWriter;
+import java.io.StringWriter;
 import java.lang.reflect.Constructor;
 import java.lang.reflect.Field;
 import java.lang.reflect.Method;
@@ -5,11 +7,15 @@ import java.lang.reflect.Modifier;
 import java.nio.file.Files;
 import java.nio.file.Path;
 import java.util.ArrayList;
+import java.util.HashSet;
 import java.util.List;
+import java.util.Map;
 import java.util.Set;
+import java.util.TreeMap;
 import java.util.TreeSet;
 import java.util.regex.Matcher;
 import java.util.regex.Pattern;
+import java.util.spi.ToolProvider;
 
 /** Some of the rules of LANGUAGE.md, looked at in the source and in the compiled class. */
 public final class LanguageTest {
@@ -21,6 +27,11 @@ public final class LanguageTest {
         "\\bsynchronized\\b", "\\bassert\\b", "->", "::", "\\bimport\\b", "\\bpackage\\b", "static\\s*\\{", "Exact\\b",
         "\\bObject\\b", "\\bnull\\s*\\)\\s*\\.", "hashCode", "\\bnative\\b", "\\bvolatile\\b", "\\bThread\\b"};
 
+    // What stands in rule 4 and is used; Object's constructor is called by each constructor.
+    private static final Set<String> LIBRARY = Set.of("java/lang/Object.<init>", "java/lang/Integer.bitCount",
+        "java/lang/Math.max", "java/lang/System.arraycopy");
+    private static final int DEEPEST = 8;
+
     private static int wrong = 0;
 
     public static void main(String[] args) throws Exception {
@@ -28,6 +39,7 @@ public final class LanguageTest {
         source(Files.readString(root.resolve("src/main/java/HeapLaw.java")));
         face();
         inside();
+        compiled(disassembled());
         System.out.println(wrong == 0 ? "the rules looked at are kept" : wrong + " rules are broken");
         if (wrong != 0) {
             System.exit(1);
@@ -111,5 +123,83 @@ public final class LanguageTest {
                 }
             }
         }
+    }
+
+    /** All classes as javap, a part of the Java kit, shows them. */
+    private static String disassembled() {
+        List<String> args = new ArrayList<>(List.of("-p", "-c", "-cp", System.getProperty("java.class.path"), "HeapLaw"));
+        for (Class<?> c : HeapLaw.class.getDeclaredClasses()) {
+            args.add(c.getName());
+        }
+        StringWriter shown = new StringWriter();
+        PrintWriter out = new PrintWriter(shown);
+        ToolProvider javap = ToolProvider.findFirst("javap").orElseThrow();
+        due(javap.run(out, out, args.toArray(new String[0])) == 0, "javap shows the classes");
+        return shown.toString();
+    }
+
+    private static void compiled(String shown) {
+        Map<String, Set<String>> calls = new TreeMap<>();
+        Set<String> privates = new HashSet<>();
+        String owner = "";
+        String method = "";
+        for (String line : shown.split("\\R")) {
+            Matcher head = Pattern.compile("^(?:\\w+ )*class (HeapLaw[\\w$]*) .*\\{$").matcher(line);
+            Matcher start = Pattern.compile("^  (?:[\\w$\\[\\]]+ )*([\\w$]+)\\(.*\\);$").matcher(line);
+            Matcher call = Pattern.compile("invoke.*// Method (?:([\\w$/]+)\\.)?\"?([\\w$<>]+)\"?:").matcher(line);
+            if (head.matches()) {
+                owner = head.group(1);
+            } else if (start.matches()) {
+                method = owner + "." + (start.group(1).equals(owner) ? "<init>" : start.group(1));
+                calls.put(method, new TreeSet<>());
+                if (line.startsWith("  private ")) {
+                    privates.add(method);
+                }
+            } else if (call.find()) {
+                calls.get(method).add((call.group(1) == null ? owner : call.group(1)) + "." + call.group(2));
+            } else if (line.matches(".*\\b(new|newarray|anewarray|multianewarray)\\b.*")) {
+                due(method.endsWith(".<init>"), "rows are made in constructors alone, not in " + method);
+            }
+        }
+        due(calls.size() > 60 && calls.get("HeapLaw.step").size() > 2, "calls are seen, not " + calls.size());
+        judgeCalls(calls);
+        for (String from : calls.keySet()) {
+            due(privates.contains(from) || !reaches(from, from, calls, new HashSet<>()),
+                "rule 8: what calls itself is private, and so is " + from);
+        }
+    }
+
+    private static boolean reaches(String from, String to, Map<String, Set<String>> calls, Set<String> seen) {
+        for (String next : calls.getOrDefault(from, Set.of())) {
+            if (next.equals(to) || seen.add(next) && reaches(next, to, calls, seen)) {
+                return true;
+            }
+        }
+        return false;
+    }
+
+    private static void judgeCalls(Map<String, Set<String>> calls) {
+        for (String from : calls.keySet()) {
+            for (String to : calls.get(from)) {
+                due(calls.containsKey(to) || LIBRARY.contains(to), from + " calls what rule 4 has, not " + to);
+            }
+            List<String> way = deepest(from, calls, new HashSet<>());
+            due(way.size() <= DEEPEST, "rule 11: calls that are no recursion go at most eight deep, not " + way);
+        }
+    }
+
+    /** The longest way of calls from a method, none of them twice. */
+    private static List<String> deepest(String from, Map<String, Set<String>> calls, Set<String> open) {
+        List<String> longest = new ArrayList<>();
+        open.add(from);
+        for (String to : calls.get(from)) {
+            if (calls.containsKey(to) && !open.contains(to)) {
+                List<String> way = deepest(to, calls, open);
+                longest = way.size() > longest.size() ? way : longest;
+            }
+        }
+        open.remove(from);
+        longest.add(0, from);
+        return longest;
     }
 }
