@@ -10,6 +10,7 @@ import java.util.ArrayList;
 import java.util.HashSet;
 import java.util.List;
 import java.util.Map;
+import java.util.Optional;
 import java.util.Set;
 import java.util.TreeMap;
 import java.util.TreeSet;
@@ -39,7 +40,12 @@ public final class LanguageTest {
         source(Files.readString(root.resolve("src/main/java/HeapLaw.java")));
         face();
         inside();
-        compiled(disassembled());
+        Optional<ToolProvider> javap = ToolProvider.findFirst("javap");
+        if (javap.isPresent()) {
+            compiled(disassembled(javap.get()));
+        } else {
+            System.out.println("this Java kit has no javap: the calls were not looked at");
+        }
         System.out.println(wrong == 0 ? "the rules looked at are kept" : wrong + " rules are broken");
         if (wrong != 0) {
             System.exit(1);
@@ -125,15 +131,14 @@ public final class LanguageTest {
         }
     }
 
-    /** All classes as javap, a part of the Java kit, shows them. */
-    private static String disassembled() {
+    /** All classes as javap, a part of most Java kits, shows them. */
+    private static String disassembled(ToolProvider javap) {
         List<String> args = new ArrayList<>(List.of("-p", "-c", "-cp", System.getProperty("java.class.path"), "HeapLaw"));
         for (Class<?> c : HeapLaw.class.getDeclaredClasses()) {
             args.add(c.getName());
         }
         StringWriter shown = new StringWriter();
         PrintWriter out = new PrintWriter(shown);
-        ToolProvider javap = ToolProvider.findFirst("javap").orElseThrow();
         due(javap.run(out, out, args.toArray(new String[0])) == 0, "javap shows the classes");
         return shown.toString();
     }
