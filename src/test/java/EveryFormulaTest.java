@@ -1,14 +1,17 @@
 import java.util.ArrayList;
 import java.util.List;
+import java.util.function.Supplier;
 
 /**
  * Every formula of at most two PARTS and one PURE part over few terms, not chance ones: which
- * small memories it fits (the cells dealt out to the PARTS in every way), whether it is fit, what
- * it says, what steps make of it, and what parts it from another one.
+ * small memories it fits (the cells dealt out to the PARTS in every way), whether it is fit, which
+ * ones without a PURE part it says, and what steps make of it; and, for those without a PURE part,
+ * what parts one from another.
  */
 public final class EveryFormulaTest {
     private static final int[] NAMED = {0, 1, 2};
     private static final int[] WITH_SPARE = {0, 1, 2, 5};
+    private static final int[] THREE_NAMES = {0, 1, 2, 3};
     private static final int SMALL_MEMORIES = 125 * 16;
     private static final int GROUP = 20;
 
@@ -18,24 +21,24 @@ public final class EveryFormulaTest {
     public static void main(String[] args) {
         List<Plain.Formula> named = all(NAMED, true, 2);
         List<Plain.Formula> bare = all(NAMED, false, 2);
-        fitting(bare);
-        fitting(all(NAMED, true, 1));
+        fitting(named);
         parting(bare);
         saying(named, bare);
         saying(all(new int[] {0, 1, 5}, true, 2), bare);
-        stepping(all(WITH_SPARE, false, 2));
-        stepping(all(WITH_SPARE, true, 1));
+        saying(apart(THREE_NAMES), all(THREE_NAMES, false, 2));
+        stepping(all(WITH_SPARE, true, 2));
         System.out.println(wrong == 0 ? "all " + asked + " answers are as due" : wrong + " answers are not as due");
         if (wrong != 0) {
             System.exit(1);
         }
     }
 
-    private static void due(String what, int got, int want) {
+    /** The text is made only where it is told: there are millions of answers. */
+    private static void due(Supplier<String> what, int got, int want) {
         asked++;
         if (got != want) {
             wrong++;
-            System.out.println(what + " answered " + got + ", due is " + want);
+            System.out.println(what.get() + " answered " + got + ", due is " + want);
         }
         if (wrong > 20) {
             System.exit(1);
@@ -60,6 +63,21 @@ public final class EveryFormulaTest {
                 Plain.Formula more = found.get(i).copy();
                 more.pures.add(code.clone());
                 found.add(more);
+            }
+        }
+        return found;
+    }
+
+    /** All terms OTHER than one another: only then does it count where an end may lie inside of a ROW. */
+    private static List<Plain.Formula> apart(int[] terms) {
+        List<Plain.Formula> found = all(terms, false, 2);
+        for (Plain.Formula one : found) {
+            for (int x : terms) {
+                for (int y : terms) {
+                    if (x < y) {
+                        one.pures.add(new int[] {1, x, y});
+                    }
+                }
             }
         }
         return found;
@@ -180,7 +198,9 @@ public final class EveryFormulaTest {
                 law.set(1, valuesOf(memory)[1]);
                 law.set(2, valuesOf(memory)[2]);
                 for (int f = 0; f < group.size(); f++) {
-                    due("fits " + text(group.get(f)) + ", memory " + memory, law.fits(f), fits(group.get(f), memory) ? 1 : 0);
+                    Plain.Formula one = group.get(f);
+                    int at = memory;
+                    due(() -> "fits " + text(one) + ", memory " + at, law.fits(f), fits(one, memory) ? 1 : 0);
                 }
             }
         }
@@ -207,9 +227,9 @@ public final class EveryFormulaTest {
                     first++;
                 }
                 String what = "differ " + text(all.get(f)) + " " + text(all.get(g));
-                due(what, law.differ(0, make(law, all.get(g))), first < SMALL_MEMORIES ? 1 : 0);
+                due(() -> what, law.differ(0, make(law, all.get(g))), first < SMALL_MEMORIES ? 1 : 0);
                 if (first < SMALL_MEMORIES) {
-                    due(what + ", memory", memoryOf(law), first);
+                    due(() -> what + ", memory", memoryOf(law), first);
                 }
             }
         }
@@ -224,7 +244,7 @@ public final class EveryFormulaTest {
         for (Plain.Formula f : all) {
             HeapLaw law = new HeapLaw();
             boolean isFit = Plain.isFit(f);
-            due("is " + text(f), law.is(make(law, f)), isFit ? 1 : 0);
+            due(() -> "is " + text(f), law.is(make(law, f)), isFit ? 1 : 0);
             for (int i = 0; i < others.size() && isFit; i++) {
                 if (law.count(0) == 60) {
                     law = new HeapLaw();
@@ -232,7 +252,7 @@ public final class EveryFormulaTest {
                 }
                 Plain.Formula g = others.get(i);
                 boolean parted = new Plain.Models(f, g, 3).values(1, 0);
-                due("says " + text(f) + " " + text(g), law.says(0, make(law, g)), parted ? 0 : 1);
+                due(() -> "says " + text(f) + " " + text(g), law.says(0, make(law, g)), parted ? 0 : 1);
             }
         }
     }
@@ -252,14 +272,14 @@ public final class EveryFormulaTest {
         Plain plain = new Plain();
         make(law, f);
         plain.formulas.add(f.copy());
-        String what = "step " + text(f) + " by " + act + " " + x + " " + y;
+        Supplier<String> what = () -> "step " + text(f) + " by " + act + " " + x + " " + y;
         due(what, law.step(0, act, x, y), plain.step(0, act, x, y));
-        due(what + ", formulas", law.count(0), plain.count(0));
+        due(() -> what.get() + ", formulas", law.count(0), plain.count(0));
         for (int g = 0; g < plain.count(0); g++) {
             for (int which = 0; which < 2; which++) {
-                due(what + ", size", law.size(g, which), plain.size(g, which));
+                due(() -> what.get() + ", size", law.size(g, which), plain.size(g, which));
                 for (int i = 0; i < 3 * plain.size(g, which); i++) {
-                    due(what + ", told", law.told(g, which, i / 3, i % 3), plain.told(g, which, i / 3, i % 3));
+                    due(() -> what.get() + ", told", law.told(g, which, i / 3, i % 3), plain.told(g, which, i / 3, i % 3));
                 }
             }
         }
